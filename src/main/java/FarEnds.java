@@ -125,7 +125,7 @@ public final class FarEnds {
         if (place < 0 || place > 1) {
             return OUTSIDE;
         }
-        joinAllNow();
+        joinAll(now.kinds);
         return nets.of(nodeOf(place, i));
     }
 
@@ -133,7 +133,7 @@ public final class FarEnds {
         if (!canHold(a, b)) {
             return UNKNOWN;
         }
-        return ringsNow(a, b) ? 1 : 0;
+        return ringsBy(now.kinds, a, b) ? 1 : 0;
     }
 
     public int touches(int a, int b) {
@@ -178,14 +178,11 @@ public final class FarEnds {
         }
         past.remember(now);
         now.countTest();
-        return ringsNow(a, b) ? 1 : 0;
+        return ringsBy(now.kinds, a, b) ? 1 : 0;
     }
 
     public int rest(int n) {
-        if (n < 1 || n > MOST_REST) {
-            return OUTSIDE;
-        }
-        int refusal = whyNoTime();
+        int refusal = n < 1 || n > MOST_REST ? OUTSIDE : whyNoTime();
         if (refusal != 0) {
             return refusal;
         }
@@ -225,10 +222,7 @@ public final class FarEnds {
     }
 
     public int drift(int n) {
-        if (n < 1 || n > MOST_REST) {
-            return OUTSIDE;
-        }
-        int refusal = whyNoTime();
+        int refusal = n < 1 || n > MOST_REST ? OUTSIDE : whyNoTime();
         if (refusal != 0) {
             return refusal;
         }
@@ -256,7 +250,7 @@ public final class FarEnds {
         int best = NONE;
         for (int set = 0; set < 1 << wires; set++) {
             boolean isFewer = best == NONE || Integer.bitCount(set) < Integer.bitCount(best);
-            if (isFewer && !ringsWithout(set, a, b)) {
+            if (isFewer && !ringsBy(kindsWithBroken(set), a, b)) {
                 best = set;
             }
         }
@@ -429,30 +423,29 @@ public final class FarEnds {
         return set;
     }
 
-    private void joinAllNow() {
-        nets.lay(now.kinds, now.touching, now.nearTies, now.farTies);
-        nets.join(order, wires, passing(now.kinds, now.hours));
+    /** Joins what is joined now, were the wires of these kinds. */
+    private void joinAll(int kinds) {
+        nets.lay(kinds, now.touching, now.nearTies, now.farTies);
+        nets.join(order, wires, passing(kinds, now.hours));
     }
 
-    private boolean ringsNow(int a, int b) {
-        joinAllNow();
+    private boolean ringsBy(int kinds, int a, int b) {
+        joinAll(kinds);
         return nets.areJoined(nodeOf(now.place, a), nodeOf(now.place, b));
     }
 
-    private boolean ringsWithout(int broken, int a, int b) {
+    private int kindsWithBroken(int set) {
         int kinds = now.kinds;
         for (int w = 0; w < wires; w++) {
-            if ((broken >> w & 1) != 0) {
+            if ((set >> w & 1) != 0) {
                 kinds = withPart(kinds, w, BROKEN);
             }
         }
-        nets.lay(kinds, now.touching, now.nearTies, now.farTies);
-        nets.join(order, wires, passing(kinds, now.hours));
-        return nets.areJoined(nodeOf(now.place, a), nodeOf(now.place, b));
+        return kinds;
     }
 
     private int goodWires() {
-        joinAllNow();
+        joinAll(now.kinds);
         int good = 0;
         for (int e = 0; e < wires && e < MOST_WIRES; e++) {
             int w = order[e];
@@ -558,7 +551,7 @@ public final class FarEnds {
     }
 
     private int countLeft() {
-        joinAllNow();
+        joinAll(now.kinds);
         int truth = nets.pattern(now.place, wires);
         int passing = passing(now.kinds, now.hours);
         int left = 0;

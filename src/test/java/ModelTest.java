@@ -37,11 +37,13 @@ public final class ModelTest {
         }
     }
 
-    /** Texts alone, each on an object of its own: faults are many, and a run has few. */
+    /** Texts alone, three to an object: faults are many, and a run has few. */
     private void manyTexts() {
         for (int i = 0; i < 60000; i++) {
-            x = new FarEnds();
-            m = new Model();
+            if (i % 3 == 0) {
+                x = new FarEnds();
+                m = new Model();
+            }
             String text = anyText();
             tell(text);
             for (int w = 0; w < 5; w++) {

@@ -266,6 +266,16 @@ public final class PromiseTest {
         due("fault() behind a text that stands", x.fault(), NONE);
         x.cable();
         due("fault() behind an empty text", x.fault(), NONE);
+        Check.feed(x, "c0,1;      k0 1;");
+        x.cable();
+        Check.feed(x, "c1,0;");
+        due("a shorter text behind a longer one", x.cable(), 2);
+        due("its kinds are its own", x.wire(0, 0), 0);
+        Check.feed(x, "c0,1;      ");
+        x.cable();
+        Check.feed(x, "c0,1;k");
+        x.cable();
+        due("fault() at the end of a shorter text", x.fault(), 6);
     }
 
     // Promise 5
