@@ -364,7 +364,7 @@ public final class FarEnds {
 
     /** Wires, near ends and far ends all have the numbers 0 to the count of wires less one. */
     private boolean isNumber(int i) {
-        return i >= 0 && i < wires;
+        return i >= 0 && i < wires && i < MOST_WIRES;
     }
 
     private boolean areTwo(int a, int b) {
